@@ -248,11 +248,12 @@ public final class RelayBooths {
         }
 
         int takeFirst() {
-            int item = first();
-            if (size > 0 && size <= items.length) {
-                size--;
-                System.arraycopy(items, 1, items, 0, size);
+            if (size <= 0 || size > items.length) {
+                return NONE;
             }
+            int item = items[0];
+            size--;
+            System.arraycopy(items, 1, items, 0, size);
             return item;
         }
 
@@ -435,11 +436,11 @@ public final class RelayBooths {
         }
 
         boolean hasBooth(int booth) {
-            return isWithin(booth, 0, boothCount - 1);
+            return booth >= 0 && booth < boothCount;
         }
 
         boolean hasInterpreter(int interpreter) {
-            return isWithin(interpreter, 0, interpreterCount - 1);
+            return interpreter >= 0 && interpreter < interpreterCount;
         }
 
         Speech speechOf(int source) {
@@ -525,33 +526,39 @@ public final class RelayBooths {
         int goOn(int ticks) {
             int uttered = 0;
             for (int i = 0; i < ticks; i++) {
-                uttered += goOneTick();
+                letFloorSpeak();
+                for (int b = 0; b < boothCount; b++) {
+                    uttered += work(b);
+                }
+                letBoothsHear();
+                letOthersRecover();
+                tick++;
             }
             return uttered;
         }
 
-        private int goOneTick() {
-            int uttered = 0;
-            int floorWord = text.takeFirst();
-            if (floorWord != NONE) {
-                floor.add(floorWord, tick);
+        private void letFloorSpeak() {
+            int word = text.takeFirst();
+            if (word != NONE) {
+                floor.add(word, tick);
             }
+        }
+
+        private void letBoothsHear() {
             for (int b = 0; b < boothCount; b++) {
-                uttered += work(b);
-            }
-            for (int b = 0; b < boothCount; b++) {
-                int heard = speechOf(booths[b].source).wordOfTick(tick);
-                if (heard != NONE) {
-                    booths[b].hear(heard, tick);
+                int word = speechOf(booths[b].source).wordOfTick(tick);
+                if (word != NONE) {
+                    booths[b].hear(word, tick);
                 }
             }
+        }
+
+        private void letOthersRecover() {
             for (int i = 0; i < interpreterCount; i++) {
                 if (interpreters[i].place == NONE) {
                     interpreters[i].recover(2);
                 }
             }
-            tick++;
-            return uttered;
         }
 
         /** What is done in a booth in a tick; returns how many words are said there. */
@@ -697,33 +704,59 @@ public final class RelayBooths {
         }
     }
 
-    /** Finds the greatest number of words that stand in both of two speeches in the same order. */
+    /**
+     * Finds the greatest number of words that stand in both of two speeches in the same order.
+     * advise compares up to 8 times 400 words with 400, so the usual table of all pairs is not
+     * gone through cell by cell: a block of 60 of its columns is held as the bits of one long.
+     */
     private static final class Comparison {
-        /** best[k]: the most in common between the words so far and the first k words of the other speech. */
-        final int[] best = new int[MOST_TICKS + 1];
+        private static final int BLOCK = 60;
+        private static final long ALL_OPEN = (1L << BLOCK) - 1L;
+
+        /** For each word, where it stands in the block, as bits. */
+        final long[] places = new long[WORDS];
+        /** For each word of the other speech, what its sum carries into the next block. */
+        final long[] carries = new long[MOST_TICKS];
 
         int mostInCommon(Speech one, Speech other) {
-            int length = Math.min(other.size, MOST_TICKS);
-            for (int k = 0; k <= length; k++) {
-                best[k] = 0;
+            for (int i = 0; i < MOST_TICKS; i++) {
+                carries[i] = 0L;
             }
-            for (int i = 0; i < one.size; i++) {
-                addWord(one.wordAt(i), other, length);
+            int common = 0;
+            for (int from = 0; from < one.size; from += BLOCK) {
+                markPlaces(one, from);
+                common += closedInBlock(other);
             }
-            return best[length];
+            return common;
         }
 
-        private void addWord(int word, Speech other, int length) {
-            int diagonal = 0;
-            for (int k = 1; k <= length; k++) {
-                int above = best[k];
-                if (other.words[k - 1] == word) {
-                    best[k] = diagonal + 1;
-                } else if (best[k - 1] > above) {
-                    best[k] = best[k - 1];
-                }
-                diagonal = above;
+        private void markPlaces(Speech speech, int from) {
+            for (int word = 0; word < WORDS; word++) {
+                places[word] = 0L;
             }
+            for (int k = 0; k < BLOCK && from + k < speech.size; k++) {
+                int word = speech.wordAt(from + k);
+                if (isWithin(word, 0, WORDS - 1)) {
+                    places[word] |= 1L << k;
+                }
+            }
+        }
+
+        /**
+         * A bit is closed where the table's row rises by 1. Each word moves the rise behind a run of
+         * open bits to the first of its own places in that run, or sets one there: the sum does this
+         * for all runs of the block at once, and its carry does it for a run that ends in the next one.
+         */
+        private int closedInBlock(Speech speech) {
+            long open = ALL_OPEN;
+            for (int i = 0; i < speech.size && i < MOST_TICKS; i++) {
+                int word = speech.wordAt(i);
+                long met = isWithin(word, 0, WORDS - 1) ? open & places[word] : 0L;
+                long sum = open + met + carries[i];
+                carries[i] = sum >>> BLOCK;
+                open = (sum | (open & ~met)) & ALL_OPEN;
+            }
+            return BLOCK - Long.bitCount(open);
         }
     }
 }
