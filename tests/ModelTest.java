@@ -285,12 +285,12 @@ public final class ModelTest {
             Talker t = c.sitter < 0 ? null : talkers.get(c.sitter);
             int says = -1;
             if (c.second >= 0) {
-                says = c.second;
-                c.second = -1;
-                if (!able(c)) {
+                if (able(c)) {
+                    says = c.second;
+                } else {
                     c.lost++;
-                    return -1;
                 }
+                c.second = -1;
             } else if (!c.held.isEmpty() && tick - c.held.get(0)[1] >= c.lag) {
                 int word = c.held.remove(0)[0];
                 if (!able(c)) {

@@ -444,10 +444,10 @@ public final class PromiseTest {
         due("it waits no more", x.booth(0, 9), 0);
         due("it is lost", x.booth(0, 7), 1);
         due("nothing left the memory", x.booth(0, 5), 1);
-        due("the fatigue is what it was", x.interpreter(0, 3), 4);
+        due("nothing is said, so the fatigue is 1 less", x.interpreter(0, 3), 3);
         due("pass(1)", x.pass(1), 0);
         due("the next word is lost", x.booth(0, 7), 2);
-        due("and the fatigue is 1 less", x.interpreter(0, 3), 3);
+        due("and the fatigue is 1 less again", x.interpreter(0, 3), 2);
         RelayBooths y = staffed(1, 0);
         y.speak(90, 0, 1);
         y.rest(1);
@@ -457,6 +457,17 @@ public final class PromiseTest {
         y.pass(1);
         due("it hears all the same", y.booth(0, 5), 1);
         due("lost", y.booth(0, 7), 1);
+        due("who left is in no booth: 2 less, at least 0", y.interpreter(0, 3), 0);
+        RelayBooths z = staffed(1, 0);
+        z.addInterpreter(4, 0);
+        z.speak(90, 0, 1);
+        z.pass(2);
+        z.sit(0, 1);
+        due("a second part waits", z.booth(0, 9), 1);
+        due("who came is not able", z.booth(0, 10), 0);
+        z.pass(1);
+        due("it is lost", z.booth(0, 7), 1);
+        due("the fatigue of who came stays 0", z.interpreter(1, 3), 0);
     }
 
     private static void passFatigue() {

@@ -579,13 +579,11 @@ public final class RelayBooths {
         }
 
         private void workUnable(Booth here) {
+            // a second part that is lost keeps the memory as it is for this tick, but not the sitter's fatigue
             if (here.secondPart != NONE) {
                 here.secondPart = NONE;
                 here.lost++;
-                // "nothing else is done there in this tick": whoever sits there does not recover either
-                return;
-            }
-            if (here.isFirstWordDue(tick)) {
+            } else if (here.isFirstWordDue(tick)) {
                 here.takeFirstWord();
                 here.lost++;
             }
