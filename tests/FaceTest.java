@@ -8,6 +8,9 @@ import java.nio.file.Path;
 import java.util.ArrayList;
 import java.util.Arrays;
 import java.util.List;
+import java.util.regex.Matcher;
+import java.util.regex.Pattern;
+import java.util.stream.Stream;
 
 /** The public face is the document's and nothing else, and the file keeps to what LANGUAGE.md can be searched for. */
 public final class FaceTest {
@@ -32,6 +35,8 @@ public final class FaceTest {
     };
     private static final String[] RULED_OUT = {"import ", "package ", "->", "::", "try {", "catch (", "synchronized",
         "assert", "instanceof", "while (true)", "for (;;)", "Exact(", "System.out", "static {"};
+    private static final List<String> LIBRARY = List.of("Math.floorMod", "Math.max", "Math.min", "Long.bitCount",
+        "System.arraycopy");
     private static int wrong = 0;
 
     private static void due(String what, boolean holds) {
@@ -103,6 +108,18 @@ public final class FaceTest {
         }
         for (int i = 0; i < text.length(); i++) {
             due("the sign at " + i + " is beyond 127", text.charAt(i) < 128);
+        }
+        Matcher called = Pattern.compile("\\b(Math|Integer|Long|System|Arrays|String|List)\\.(\\w+)").matcher(text);
+        while (called.find()) {
+            due("the library's " + called.group() + " is called", LIBRARY.contains(called.group()));
+        }
+        Matcher thrown = Pattern.compile("throw ([^;]*);").matcher(text);
+        while (thrown.find()) {
+            due("it says throw " + thrown.group(1), thrown.group(1).matches(
+                "new (IllegalState|IllegalArgument|IndexOutOfBounds)Exception\\(\"[a-z ]*\"\\)"));
+        }
+        try (Stream<Path> files = Files.walk(Path.of("src"))) {
+            due("there is one file under src", files.filter(Files::isRegularFile).count() == 1);
         }
     }
 
